@@ -728,7 +728,7 @@ public final class SandKeepsSea {
     }
 
     private static boolean isDigit(int sign) {
-        return within(sign, '0', '9');
+        return sign >= '0' && sign <= '9';
     }
 
     private static int clamp(int v, int most) {
@@ -980,6 +980,7 @@ public final class SandKeepsSea {
         private final int[] stack = new int[MOST_RULE];
         private int length;
         private int at;
+        private int sign;
         private int bad;
 
         Law() {
@@ -998,8 +999,9 @@ public final class SandKeepsSea {
                 return NONE;
             }
             length = 0;
-            at = 0;
             bad = NONE;
+            at = -1;
+            step(text);
             readComparison(text, 0);
             if (bad == NONE && at < text.length) {
                 bad = at;
@@ -1009,73 +1011,66 @@ public final class SandKeepsSea {
 
         private void readComparison(Text text, int depth) {
             readSum(text, depth);
-            int sign = next(text);
-            if (sign == '<' || sign == '>' || sign == '=') {
-                at++;
+            int op = sign;
+            if (op == '<' || op == '>' || op == '=') {
+                step(text);
                 readSum(text, depth);
-                put(sign == '<' ? LESS : sign == '>' ? MORE : EQUAL);
+                put(op == '<' ? LESS : op == '>' ? MORE : EQUAL);
             }
         }
 
         private void readSum(Text text, int depth) {
             readProduct(text, depth);
-            int sign = next(text);
             for (int i = 0; i < MOST_RULE && (sign == '+' || sign == '-'); i++) {
-                at++;
+                int op = sign;
+                step(text);
                 readProduct(text, depth);
-                put(sign == '+' ? PLUS : MINUS);
-                sign = next(text);
+                put(op == '+' ? PLUS : MINUS);
             }
         }
 
         private void readProduct(Text text, int depth) {
-            readSigned(text, depth);
-            int sign = next(text);
+            readThing(text, depth);
             for (int i = 0; i < MOST_RULE && (sign == '*' || sign == '/'); i++) {
-                at++;
-                readSigned(text, depth);
-                put(sign == '*' ? TIMES : BY);
-                sign = next(text);
+                int op = sign;
+                step(text);
+                readThing(text, depth);
+                put(op == '*' ? TIMES : BY);
             }
         }
 
-        private void readSigned(Text text, int depth) {
+        private void readThing(Text text, int depth) {
             boolean negative = false;
-            for (int i = 0; i < MOST_RULE && next(text) == '-'; i++) {
-                at++;
+            for (int i = 0; i < MOST_RULE && sign == '-'; i++) {
+                step(text);
                 negative = !negative;
             }
-            readThing(text, depth);
+            if (isDigit(sign)) {
+                readNumber(text);
+            } else if (variable(sign) != UNKNOWN) {
+                put(variable(sign));
+                step(text);
+            } else if (sign == '(' && depth < MOST_NESTED) {
+                step(text);
+                readComparison(text, depth + 1);
+                if (sign == ')') {
+                    step(text);
+                } else {
+                    fail();
+                }
+            } else {
+                fail();
+            }
             if (negative) {
                 put(NEGATE);
             }
         }
 
-        private void readThing(Text text, int depth) {
-            int sign = next(text);
-            if (isDigit(sign)) {
-                readNumber(text);
-            } else if (sign == '(' && depth < MOST_NESTED) {
-                at++;
-                readComparison(text, depth + 1);
-                if (next(text) == ')') {
-                    at++;
-                } else {
-                    fail();
-                }
-            } else if (variable(sign) != UNKNOWN) {
-                at++;
-                put(variable(sign));
-            } else {
-                fail();
-            }
-        }
-
         private void readNumber(Text text) {
             int number = 0;
-            for (int i = 0; i < 3 && isDigit(next(text)); i++) {
-                number = 10 * number + next(text) - '0';
-                at++;
+            for (int i = 0; i < 3 && isDigit(sign); i++) {
+                number = 10 * number + sign - '0';
+                step(text);
             }
             put(number);
         }
@@ -1090,15 +1085,17 @@ public final class SandKeepsSea {
             }
         }
 
-        /** Behind a fault no sign comes any more, so that all that is open ends. */
-        private int next(Text text) {
-            return bad == NONE ? text.signAt(at, MOST_RULE) : TEXT_END;
+        private void step(Text text) {
+            at++;
+            sign = text.signAt(at, MOST_RULE);
         }
 
+        /** Behind a fault no sign comes any more, so that all that is open ends. */
         private void fail() {
             if (bad == NONE) {
                 bad = at;
             }
+            sign = TEXT_END;
         }
 
         private void put(int code) {
@@ -1681,7 +1678,9 @@ public final class SandKeepsSea {
         private boolean stands(State now, State trial) {
             trial.copy(now);
             System.arraycopy(place, 0, trial.place, 0, MOST_CHILDREN);
-            trial.buildOn(spells);
+            for (int i = 0; i < spells; i++) {
+                trial.spell();
+            }
             return trial.below(height) == 0;
         }
     }
