@@ -360,6 +360,9 @@ public final class PromisesTest {
         be("<", levelBy("(1<2)*5"), 5);
         be("<", levelBy("(2<2)*5"), 0);
         be(">", levelBy("3>2"), 1);
+        be(">", levelBy("2>2"), 0);
+        be(">", levelBy("1>2"), 0);
+        be("=", levelBy("2=1"), 0);
         be("=", levelBy("2=1+1"), 1);
         be("= binds least", levelBy("3=2+1*1"), 1);
         be("( ) in one another", levelBy("((((7))))"), 7);
@@ -684,6 +687,8 @@ public final class PromisesTest {
         be("n 0", x.pump(0), NONE);
         be("n 100", x.pump(100), NONE);
         be("acts", x.count(11), 3);
+        x.undo();
+        be("n 1", x.pump(1), 0);
     }
 
     private static void walls() {
@@ -938,9 +943,17 @@ public final class PromisesTest {
         rule("4");
         // 99, 1 less each: 4 left behind 95, 3 behind 96.
         be("holds", x.holds(), 97);
-        x.go(0, 0);
+        x.home(0);
+        children("7,2-;7,1-");
+        x.go(1, 0);
+        x.build(1);
+        be("the last that is told", x.holds(), 99);
+        be("the last that is told", x.moats(0), 99);
+        x.go(2, 0);
+        x.home(1);
         x.build(1);
         be("not in 99", x.holds(), -2);
+        be("not in 99", x.moats(0), 100);
         moreToCome();
     }
 
@@ -1015,6 +1028,11 @@ public final class PromisesTest {
         rowIs(1);
         be("none", x.raise(1, 2), 0);
         rowIs(0);
+        be("v 1", x.raise(0, 1), 0);
+        be("beside a dyke of 3", x.raise(2, 4), 1);
+        rowIs(4);
+        be("beside a dyke of 3", x.raise(2, 5), 2);
+        rowIs(6);
         be("the last", x.raise(3, 10), 1);
         rowIs(4);
         be("not by all", x.raise(3, 11), -2);
@@ -1243,6 +1261,10 @@ public final class PromisesTest {
         be("n -1", x.work(-1), NONE);
         be("questions change nothing", x.count(9), 0);
         be("as build", x.build(5), 46);
+        x.sheet(2, 2, 5, 0);
+        x.go(0, 2);
+        be("only what is added from now on", x.work(1), 4);
+        rowIs(0, 0, 4);
     }
 
     // ---- laws
@@ -1445,6 +1467,7 @@ public final class PromisesTest {
         start("40");
         be("n 0", x.summers(1, 0), NONE);
         be("n 61", x.summers(1, 61), NONE);
+        be("n 1", x.summers(1, 1) >= 0 ? 1 : 0, 1);
         rule("5");
         int broken = 0;
         int tides = 0;
