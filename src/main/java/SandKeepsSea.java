@@ -347,14 +347,14 @@ public final class SandKeepsSea {
             return CANT;
         }
         int height = heightOf(law, now, 0);
-        int best = 0;
-        int most = Integer.MIN_VALUE;
+        int best = NONE;
+        int most = 0;
         for (int c = 0; c < land.cells; c++) {
             trial.copy(now);
             trial.place[child] = c;
             trial.buildOn(n);
             int spare = trial.lowestTop() - height;
-            if (spare > most) {
+            if (best == NONE || spare > most) {
                 most = spare;
                 best = c;
             }
