@@ -23,7 +23,7 @@ public final class AnyCallsTest {
             SandKeepsSea x = new SandKeepsSea();
             for (int call = 0; call < 512; call++) {
                 if (random.nextInt(6) == 0) {
-                    write(x, TEXTS[random.nextInt(TEXTS.length)]);
+                    Bench.writeTo(x, TEXTS[random.nextInt(TEXTS.length)]);
                 }
                 due.be("seed " + seed, fault(x, face[random.nextInt(face.length)], random), "");
             }
@@ -45,17 +45,5 @@ public final class AnyCallsTest {
             boolean due = may && e.getCause().getClass() == NoSuchElementException.class;
             return due ? "" : m.getName() + Arrays.toString(values) + " throws " + e.getCause();
         }
-    }
-
-    private static void write(SandKeepsSea x, String t) {
-        x.end(0);
-        for (int p = 0; p < t.length(); p += 4) {
-            int v = 0;
-            for (int k = p; k < p + 4; k++) {
-                v = v << 8 | (k < t.length() ? t.charAt(k) : 0);
-            }
-            x.sign(v);
-        }
-        x.end(t.length());
     }
 }

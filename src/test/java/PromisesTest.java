@@ -1,14 +1,5 @@
-import java.util.NoSuchElementException;
-
 /** For each promise of the document: ordinary inputs, the edges that it names, and wrong inputs. */
-public final class PromisesTest {
-    private static final long NOTHING = Long.MIN_VALUE;
-    private static final int NONE = SandKeepsSea.NONE;
-    private static final Due due = new Due();
-
-    private static SandKeepsSea x;
-    private static String promise = "";
-
+public final class PromisesTest extends Bench {
     public static void main(String[] args) {
         newObject();
         texts();
@@ -38,109 +29,6 @@ public final class PromisesTest {
         keptAndCounted();
         refusedChangeNothing();
         due.end();
-    }
-
-    // ---- helpers
-
-    private static void start(String name) {
-        promise = "promise " + name + ": ";
-        x = new SandKeepsSea();
-    }
-
-    private static void be(String what, long got, long want) {
-        due.be(promise + what, got, want);
-    }
-
-    private static void yes(String what, boolean got) {
-        due.be(promise + what, got, true);
-    }
-
-    private static void no(String what, boolean got) {
-        due.be(promise + what, got, false);
-    }
-
-    /** The whole ROW. */
-    private static void rowIs(long... numbers) {
-        be("numbers of the row", x.count(12), numbers.length);
-        for (int i = 0; i < numbers.length; i++) {
-            be("row(" + i + ")", row(i), numbers[i]);
-        }
-        be("row(" + numbers.length + ")", row(numbers.length), NOTHING);
-    }
-
-    private static long row(int i) {
-        try {
-            return x.row(i);
-        } catch (NoSuchElementException e) {
-            return NOTHING;
-        }
-    }
-
-    private static long cell(int c, int what) {
-        try {
-            return x.cell(c, what);
-        } catch (NoSuchElementException e) {
-            return NOTHING;
-        }
-    }
-
-    private static long child(int c, int what) {
-        try {
-            return x.child(c, what);
-        } catch (NoSuchElementException e) {
-            return NOTHING;
-        }
-    }
-
-    private static void write(String t) {
-        x.end(0);
-        for (int p = 0; p < t.length(); p += 4) {
-            int v = 0;
-            for (int k = p; k < p + 4; k++) {
-                v = v << 8 | (k < t.length() ? t.charAt(k) : 0);
-            }
-            x.sign(v);
-        }
-        x.end(t.length());
-    }
-
-    private static int shore(String t) {
-        write(t);
-        int answer = x.shore();
-        be("signs behind shore()", x.count(13), 0);
-        return answer;
-    }
-
-    private static int children(String t) {
-        write(t);
-        int answer = x.children();
-        be("signs behind children()", x.count(13), 0);
-        return answer;
-    }
-
-    private static int rule(String t) {
-        write(t);
-        int answer = x.rule();
-        be("signs behind rule()", x.count(13), 0);
-        return answer;
-    }
-
-    private static int summer(String t) {
-        write(t);
-        int answer = x.summer();
-        be("signs behind summer()", x.count(13), 0);
-        return answer;
-    }
-
-    private static int law(String t) {
-        write(t);
-        int answer = x.law();
-        be("signs behind law()", x.count(13), 0);
-        return answer;
-    }
-
-    private static String times(String t, int n) {
-        return t.repeat(n);
     }
 
     // ---- the shore, children
@@ -329,11 +217,6 @@ public final class PromisesTest {
         be("forgotten", x.count(11), 0);
     }
 
-    private static int levelBy(String t) {
-        be("rule " + t, rule(t), 0);
-        return x.level(0);
-    }
-
     private static void rules() {
         start("6");
         shore("000");
@@ -480,14 +363,6 @@ public final class PromisesTest {
         be("all are had", x.spade(1), -2);
         be("give back", x.spade(2), 1);
         be("get", x.spade(1), -2);
-    }
-
-    private static long moodsTold() {
-        long all = 0;
-        for (int i = 0; i < x.count(1); i++) {
-            all = all * 10 + child(i, 3);
-        }
-        return all;
     }
 
     private static void sheets() {
@@ -1423,6 +1298,7 @@ public final class PromisesTest {
         be("c 10", x.rests(1, 10), NONE);
         rowIs(leastX, leastY);
         for (int v = 1; v <= 99; v++) {
+            x = new SandKeepsSea();
             for (int c = 0; c <= 9; c++) {
                 int many = pairsAtRest(v, c);
                 be("rests(" + v + ", " + c + ")", x.rests(v, c), many);
@@ -1477,12 +1353,13 @@ public final class PromisesTest {
         }
         be("nobody: no draws, each tide breaks", x.summers(-77, 60), tides);
         rowIs(1, 0);
-        shore("123");
-        children("7,4-;13,6a;5,9-");
-        x.spade(0);
-        x.sheet(2, 3, 9, -4);
-        rule("20+n*3");
         for (int seed = -40; seed < 40; seed++) {
+            start("40");
+            shore("123");
+            children("7,4-;13,6a;5,9-");
+            x.spade(0);
+            x.sheet(2, 3, 9, -4);
+            rule("20+n*3");
             broken = byActs(seed, 45);
             long wet = Integer.bitCount(x.count(7));
             long home = Integer.bitCount(x.count(8));
