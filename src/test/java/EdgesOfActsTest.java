@@ -141,6 +141,14 @@ public final class EdgesOfActsTest extends Bench {
         x.go(7, 0);
         be("first", child(0, 6), 5);
         be("last", child(7, 6), 7);
+        start("8 (friends of whom none is the first)");
+        children("7,4-;7,6-;7,8b");
+        for (int i = 0; i < 3; i++) {
+            x.go(i, 0);
+        }
+        be("who has none", child(0, 6), 4);
+        be("one whose friend it is", child(1, 6), 7);
+        be("its friend", child(2, 6), 9);
         start("8 (one that came in a later text is a friend)");
         children("7,4-");
         children("7,6a");
@@ -1093,6 +1101,24 @@ public final class EdgesOfActsTest extends Bench {
         be("wind is not given back", x.count(3), 2);
         be("the rule is not given back", x.level(0), 3);
         be("seen is not given back", x.count(10), 2);
+        start("20 (all twelve cells, all eight children)");
+        shore(TWELVE);
+        children(EIGHT);
+        x.set(1, 8);
+        for (int i = 0; i < 8; i++) {
+            x.go(i, 11 - i);
+        }
+        rule("20");
+        be("all at once", summer("b9" + "masasbscsdsesfsgsh" + "w"), 11);
+        be("all broke", x.count(7), 4095);
+        be("undo", x.undo(), 8);
+        for (int c = 0; c < 12; c++) {
+            be("wall and depth", cell(c, 1) + cell(c, 3), 0);
+            be("who is there", cell(c, 5), c > 3 ? 1 << 11 - c : 0);
+        }
+        be("moods", moodsTold(), 55555555);
+        be("spades", x.count(5), 0);
+        be("moats", x.count(6), 0);
         start("20 (spades had by undo may be more than there are: all are had)");
         children("7,4-;7,6-");
         x.spade(0);

@@ -17,6 +17,7 @@ public final class EdgesOfQuestionsTest extends Bench {
         crewTold();
         crewFewest();
         crewLeast();
+        crewOfEach();
         crewMoods();
         postNumbers();
         postFirst();
@@ -201,6 +202,14 @@ public final class EdgesOfQuestionsTest extends Bench {
         be("one has nobody", x.spells(), -2);
         x.go(1, 1);
         be("the slower one", x.spells(), 2);
+        start("24 (the next tide, whatever was asked ahead)");
+        children("7,4-");
+        x.go(0, 0);
+        rule("4+n");
+        x.tides(5);
+        be("n 0", x.spells(), 1);
+        x.tide();
+        be("n 1", x.spells(), 2);
         start("24 (in mood 0 one spell)");
         children("7,9-");
         x.go(0, 0);
@@ -433,6 +442,42 @@ public final class EdgesOfQuestionsTest extends Bench {
         be("n 1", x.crew(1, 2), 1);
     }
 
+    private static void crewOfEach() {
+        start("27 (each by its own mood)");
+        children("7,9-;7,5-");
+        x.sheet(2, 2, 9, -4);
+        rule("5");
+        be("b in mood 5", x.crew(2, 1), 1);
+        rowIs(NONE, 0);
+        x.sheet(2, 2, 1, 3);
+        be("b in mood 4", x.crew(2, 1), 1);
+        start("27 (each by its own age)");
+        children("13,9-;12,5-;13,9-");
+        rule("5");
+        be("b of 12", x.crew(2, 1), 1);
+        be("a of 13", x.crew(1, 1), -2);
+        be("c of 13", x.crew(4, 1), -2);
+        rule("4");
+        be("a of 13", x.crew(1, 1), 1);
+        start("27 (each by its own friends)");
+        children("7,1-;7,5-;7,5b");
+        rule("12");
+        be("b and c", x.crew(6, 1), 2);
+        rowIs(NONE, 0, 0);
+        be("all three", x.crew(7, 1), 2);
+        rowIs(NONE, 0, 0);
+        start("27 (wherever it is now)");
+        shore("099999999999");
+        children("7,5-");
+        x.go(0, 11);
+        x.sheet(2, 1, 3, 0);
+        rule("5");
+        be("from the last cell", x.crew(1, 1), 1);
+        rowIs(0);
+        rule("7");
+        be("two spells", x.crew(1, 2), 1);
+    }
+
     private static void crewMoods() {
         start("27 (those of mood 0 can't)");
         children("7,9-;7,2-");
@@ -613,6 +658,13 @@ public final class EdgesOfQuestionsTest extends Bench {
         rowIs(257);
         be("four", x.moats(4), 12);
         rowIs(256 + 7);
+        start("29 (by wind and cells)");
+        shore("222");
+        x.set(0, 5);
+        rule("w*c+5");
+        be("20", x.moats(0), 100);
+        x.set(0, 6);
+        be("23", x.moats(0), 1);
         start("29 (m is how many)");
         shore("111");
         rule("13-m");
@@ -1159,6 +1211,18 @@ public final class EdgesOfQuestionsTest extends Bench {
             rule("9+n*3");
             sameByActs(seed, 1);
             sameByActs(seed, 2);
+            sameByActs(seed, 60);
+            start("40 (a draw of children, then a draw of cells)");
+            shore("0|90|90|90|90");
+            children("7,4-;7,9-");
+            rule("4");
+            sameByActs(seed, 30);
+            sameByActs(seed, 60);
+            start("40 (more children than cells)");
+            shore("0|90");
+            children("7,1-" + times(";7,4-", 7));
+            rule("3");
+            sameByActs(seed, 20);
             sameByActs(seed, 60);
             start("40 (without children no draws)");
             rule("n");

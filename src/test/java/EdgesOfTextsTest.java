@@ -567,6 +567,8 @@ public final class EdgesOfTextsTest extends Bench {
         be("four, then out and in", levelBy("((1)+(((2))))"), 3);
         be("three, out, three", levelBy("((((1))+((2))))"), 3);
         be("four, out, a fifth", rule("(((1+(1)+((1)))))"), -11);
+        be("all that waits at each depth", levelBy("0<9+5*(0<9+5*(0<9+5*(0<9+5*(0<9+5*1))))"), 1);
+        be("all that waits at each depth", levelBy("1+2*(1+2*(1+2*(1+2*(1+2*3))))"), 127);
         be("a ) too many", rule("((((4)))))"), -10);
         be("a ) too few", rule("((((4)))"), -9);
         be("()", rule("()"), -2);
