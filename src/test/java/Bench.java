@@ -7,6 +7,10 @@ class Bench {
     static final int NONE = SandKeepsSea.NONE;
     static final int MIN = Integer.MIN_VALUE;
     static final int MAX = Integer.MAX_VALUE;
+    static final String TWELVE = "000000000000";
+    static final String EIGHT = "7,1-;7,2-;7,3-;7,4-;7,5-;7,6-;7,7-;7,8-";
+    /** Numbers of no CELL and of no CHILD. */
+    static final int[] FAR = {MIN, -2, -1, 12, 13, 31, 32, 33, 64, MAX};
     static final Due due = new Due();
 
     static SandKeepsSea x;

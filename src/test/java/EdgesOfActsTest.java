@@ -1,9 +1,5 @@
 /** Boundary cases of promises 7 to 20, a method for each sentence of the document that names some. */
 public final class EdgesOfActsTest extends Bench {
-    private static final String TWELVE = "000000000000";
-    private static final String EIGHT = "7,1-;7,2-;7,3-;7,4-;7,5-;7,6-;7,7-;7,8-";
-    private static final int[] FAR = {MIN, -2, -1, 12, 13, 31, 32, 33, 64, MAX};
-
     public static void main(String[] args) {
         cellsAsked();
         childrenAsked();

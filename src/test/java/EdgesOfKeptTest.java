@@ -1,8 +1,5 @@
 /** Boundary cases of promises 41 to 44, a method for each sentence of the document that names some. */
 public final class EdgesOfKeptTest extends Bench {
-    private static final String TWELVE = "000000000000";
-    private static final String EIGHT = "7,1-;7,2-;7,3-;7,4-;7,5-;7,6-;7,7-;7,8-";
-
     public static void main(String[] args) {
         keepNumbers();
         keepAnew();

@@ -1,6 +1,6 @@
 /** Boundary cases of promises 1 to 6, a method for each sentence of the document that names some. */
 public final class EdgesOfTextsTest extends Bench {
-    private static final String EIGHT = "10,1-" + ";11,2a".repeat(7);
+    private static final String LONGEST = "10,1-" + ";11,2a".repeat(7);
 
     public static void main(String[] args) {
         newObject();
@@ -429,20 +429,20 @@ public final class EdgesOfTextsTest extends Bench {
 
     private static void childrenLength() {
         start("5 (47, if it has more and the first 47 could go on or end)");
-        be("47 signs", EIGHT.length(), 47);
+        be("47 signs", LONGEST.length(), 47);
         String signs = "0a,;-x\u0000";
         for (int i = 0; i < signs.length(); i++) {
-            be("the first 47 could end, then " + (int) signs.charAt(i), children(EIGHT + signs.charAt(i)), -48);
+            be("the first 47 could end, then " + (int) signs.charAt(i), children(LONGEST + signs.charAt(i)), -48);
         }
         String open = "10,1-" + times(";11,2a", 6) + ";011,2";
         be("47 signs that could go on", open.length(), 47);
-        be("80 signs", children(EIGHT + times("x", 33)), -48);
-        be("a fault at 46", children(EIGHT.substring(0, 46) + "x1"), -47);
-        be("a fault at 45", children(EIGHT.substring(0, 45) + "xa1"), -46);
-        be("a fault at 0 of 80", children("x" + EIGHT + times("1", 32)), -1);
-        be("ends too early at 46", children(EIGHT.substring(0, 46)), -47);
+        be("80 signs", children(LONGEST + times("x", 33)), -48);
+        be("a fault at 46", children(LONGEST.substring(0, 46) + "x1"), -47);
+        be("a fault at 45", children(LONGEST.substring(0, 45) + "xa1"), -46);
+        be("a fault at 0 of 80", children("x" + LONGEST + times("1", 32)), -1);
+        be("ends too early at 46", children(LONGEST.substring(0, 46)), -47);
         be("nobody came", x.count(1), 0);
-        be("47 signs", children(EIGHT), 8);
+        be("47 signs", children(LONGEST), 8);
         start("5 (47, where no line has room behind the first 47)");
         String seven = "4,1-" + times(";10,1-", 7);
         be("46 signs", seven.length(), 46);

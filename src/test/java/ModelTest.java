@@ -1,4 +1,3 @@
-import java.util.NoSuchElementException;
 import java.util.Random;
 
 /** Runs of drawn calls on SandKeepsSea and on Model: every answer, the ROW and all that can be asked must agree. */
@@ -339,45 +338,21 @@ public final class ModelTest {
         }
         for (int c = -1; c <= y.count(0); c++) {
             for (int what = -1; what <= 7; what++) {
-                be("cell(" + c + ", " + what + ")", cellOf(c, what), orFar(y.cell(c, what)));
+                be("cell(" + c + ", " + what + ")", Bench.cellOf(x, c, what), orFar(y.cell(c, what)));
             }
         }
         for (int c = -1; c <= y.count(1); c++) {
             for (int what = -1; what <= 7; what++) {
-                be("child(" + c + ", " + what + ")", childOf(c, what), orFar(y.child(c, what)));
+                be("child(" + c + ", " + what + ")", Bench.childOf(x, c, what), orFar(y.child(c, what)));
             }
         }
         for (int i = -1; i <= y.count(12); i++) {
             Long want = y.row(i);
-            be("row(" + i + ")", rowOf(i), want == null ? Long.MIN_VALUE : want);
+            be("row(" + i + ")", Bench.rowOf(x, i), want == null ? Bench.NOTHING : want);
         }
     }
 
     private static long orFar(Integer v) {
-        return v == null ? Long.MIN_VALUE : v;
-    }
-
-    private long cellOf(int c, int what) {
-        try {
-            return x.cell(c, what);
-        } catch (NoSuchElementException e) {
-            return Long.MIN_VALUE;
-        }
-    }
-
-    private long childOf(int c, int what) {
-        try {
-            return x.child(c, what);
-        } catch (NoSuchElementException e) {
-            return Long.MIN_VALUE;
-        }
-    }
-
-    private long rowOf(int i) {
-        try {
-            return x.row(i);
-        } catch (NoSuchElementException e) {
-            return Long.MIN_VALUE;
-        }
+        return v == null ? Bench.NOTHING : v;
     }
 }
