@@ -397,6 +397,12 @@ public final class EdgesOfQuestionsTest extends Bench {
         rowIs(11, NONE, NONE, NONE, NONE, NONE, NONE, NONE);
         rule("2");
         be("nowhere of twelve", x.crew(1, 1), -2);
+        start("27 (beside the last of twelve)");
+        shore("999999999990");
+        children("7,5-;7,5a");
+        rule("6");
+        be("one alone is too few at each of twelve", x.crew(3, 1), 2);
+        rowIs(10, 11);
     }
 
     private static void crewLeast() {
