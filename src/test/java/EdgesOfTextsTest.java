@@ -401,6 +401,13 @@ public final class EdgesOfTextsTest extends Bench {
             }
             be("first: sign " + (int) first.charAt(i), children(first.charAt(i) + ",1-"), -1);
         }
+        String between = otherSigns(";");
+        for (int i = 0; i < between.length(); i++) {
+            if (i % 50 == 0) {
+                x = new SandKeepsSea();
+            }
+            be("between two lines: sign " + (int) between.charAt(i), children("7,1-" + between.charAt(i) + "7,1-"), -5);
+        }
         be("nobody came", x.count(1), 0);
     }
 

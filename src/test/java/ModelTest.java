@@ -1,7 +1,15 @@
 import java.util.Random;
 
-/** Runs of drawn calls on SandKeepsSea and on Model: every answer, the ROW and all that can be asked must agree. */
+/**
+ * Runs of drawn calls on SandKeepsSea and on Model: every answer must agree, what is asked between them, and at a run's
+ * end all that can be asked. No object is used for more than 512 calls, since the document promises nothing beyond.
+ */
 public final class ModelTest {
+    private static final int MOST_CALLS = 512;
+    /** What same() asks at most: 16 counts, 14 CELLS and 10 CHILDREN of 9 whats each, 14 numbers of the ROW. */
+    private static final int CALLS_OF_SAME = 16 + 9 * 14 + 9 * 10 + 14;
+    /** What one step asks at most: a text of 80 signs and the call that reads it, and what is asked behind it. */
+    private static final int CALLS_OF_STEP = 23 + 5;
     private static final int[] EDGES = {Integer.MIN_VALUE, -2, -1, 0, 1, 2, 3, 4, 5, 8, 9, 10, 12, 13, 30, 31, 60, 61,
         99, 100, 999, 1000, Integer.MAX_VALUE};
     private static final String[] RULES = {"30+w*10+n*5", "n*7", "20+(n>3)*c*4-m*6", "-(5-w)*12/n", "999*999*999*n",
@@ -14,30 +22,39 @@ public final class ModelTest {
     private final Due due;
     private final SandKeepsSea x = new SandKeepsSea();
     private final Model y = new Model();
+    /** How often something is asked between two calls: the fewer, the longer the run. */
+    private final int glances;
+    private int asked;
     private String last = "";
 
     private ModelTest(long seed, Due due) {
         random = new Random(seed);
         this.due = due;
+        glances = random.nextInt(5);
     }
 
     public static void main(String[] args) {
-        int runs = args.length > 0 ? Integer.parseInt(args[0]) : 400;
+        int runs = args.length > 0 ? Integer.parseInt(args[0]) : 3000;
         long from = args.length > 1 ? Long.parseLong(args[1]) : 0;
         Due due = new Due();
         for (long seed = from; seed < from + runs && !due.anyWrong(); seed++) {
-            ModelTest test = new ModelTest(seed, due);
-            for (int i = 0; i < 250 && !due.anyWrong(); i++) {
-                test.last = "seed " + seed + ", call " + i + ": ";
-                test.call(i < 3 ? random3(i) : test.random.nextInt(60));
-                test.same();
-            }
+            new ModelTest(seed, due).run(seed);
         }
         due.end();
     }
 
-    private static int random3(int i) {
-        return i == 2 ? 5 : 2 + i;
+    private void run(long seed) {
+        // At first a shore, children and a rule are told.
+        int[] first = {2, 3, 5};
+        for (int i = 0; asked + CALLS_OF_STEP + CALLS_OF_SAME <= MOST_CALLS && !due.anyWrong(); i++) {
+            last = "seed " + seed + ", call " + i + ": ";
+            call(i < first.length ? first[i] : random.nextInt(60));
+            for (int g = 0; g < glances; g++) {
+                glance();
+            }
+        }
+        same();
+        due.be("seed " + seed + ": calls of one object", asked <= MOST_CALLS, true);
     }
 
     private int any(int most) {
@@ -52,13 +69,14 @@ public final class ModelTest {
         return random.nextInt(8) == 0 ? any(13) : random.nextInt(y.count(0));
     }
 
+    /** Each answer of the object under test comes by here. */
     private void be(String call, long got, long want) {
+        asked++;
         due.be(last + call, got, want);
     }
 
     private void write(String t) {
-        x.end(0);
-        y.end(0);
+        be("end(0)", x.end(0) ? 1 : 0, y.end(0) ? 1 : 0);
         String full = t.length() > 80 ? t.substring(0, 80) : t;
         for (int p = 0; p < full.length(); p += 4) {
             int v = 0;
@@ -332,24 +350,50 @@ public final class ModelTest {
         be("crew(" + those + ", " + n + ")", x.crew(those, n), y.crew(those, n));
     }
 
+    /** One question about what there is, drawn. */
+    private void glance() {
+        switch (random.nextInt(4)) {
+            case 0: sameCount(random.nextInt(14)); break;
+            case 1: sameCell(random.nextInt(y.count(0)), random.nextInt(7)); break;
+            case 2: sameChild(random.nextInt(Math.max(1, y.count(1))), random.nextInt(7)); break;
+            default: sameRow(random.nextInt(y.count(12) + 1)); break;
+        }
+    }
+
     private void same() {
         for (int i = -1; i <= 14; i++) {
-            be("count(" + i + ")", x.count(i), y.count(i));
+            sameCount(i);
         }
         for (int c = -1; c <= y.count(0); c++) {
             for (int what = -1; what <= 7; what++) {
-                be("cell(" + c + ", " + what + ")", Bench.cellOf(x, c, what), orFar(y.cell(c, what)));
+                sameCell(c, what);
             }
         }
         for (int c = -1; c <= y.count(1); c++) {
             for (int what = -1; what <= 7; what++) {
-                be("child(" + c + ", " + what + ")", Bench.childOf(x, c, what), orFar(y.child(c, what)));
+                sameChild(c, what);
             }
         }
         for (int i = -1; i <= y.count(12); i++) {
-            Long want = y.row(i);
-            be("row(" + i + ")", Bench.rowOf(x, i), want == null ? Bench.NOTHING : want);
+            sameRow(i);
         }
+    }
+
+    private void sameCount(int what) {
+        be("count(" + what + ")", x.count(what), y.count(what));
+    }
+
+    private void sameCell(int c, int what) {
+        be("cell(" + c + ", " + what + ")", Bench.cellOf(x, c, what), orFar(y.cell(c, what)));
+    }
+
+    private void sameChild(int c, int what) {
+        be("child(" + c + ", " + what + ")", Bench.childOf(x, c, what), orFar(y.child(c, what)));
+    }
+
+    private void sameRow(int i) {
+        Long want = y.row(i);
+        be("row(" + i + ")", Bench.rowOf(x, i), want == null ? Bench.NOTHING : want);
     }
 
     private static long orFar(Integer v) {
