@@ -6,7 +6,10 @@ import java.util.Comparator;
 import java.util.NoSuchElementException;
 import java.util.Random;
 
-/** Whatever is called in whatever order: only cell, child and row throw, and only NoSuchElementException. */
+/**
+ * Whatever is called in whatever order: only cell, child and row throw, and only NoSuchElementException. An object is used
+ * for more than 512 calls here: what it answers then is free, but LANGUAGE.md (rule 7) lets it throw nothing even so.
+ */
 public final class AnyCallsTest {
     private static final int[] EDGES = {Integer.MIN_VALUE, Integer.MIN_VALUE + 1, -257, -2, -1, 7, 8, 9, 11, 12, 13, 31, 32, 33, 80,
         81, 99, 100, 255, 256, 998, 999, 1000, 65536, Integer.MAX_VALUE - 1, Integer.MAX_VALUE};

@@ -97,7 +97,8 @@ public final class ChangesTest extends Bench {
 
     private static String ofCells(SandKeepsSea s, int what) {
         StringBuilder all = new StringBuilder();
-        for (int c = 0; c <= s.count(0); c++) {
+        int many = s.count(0);
+        for (int c = 0; c <= many; c++) {
             all.append(' ').append(cellOf(s, c, what));
         }
         return all.toString();
@@ -105,7 +106,8 @@ public final class ChangesTest extends Bench {
 
     private static String ofChildren(SandKeepsSea s, int what) {
         StringBuilder all = new StringBuilder();
-        for (int c = 0; c <= s.count(1); c++) {
+        int many = s.count(1);
+        for (int c = 0; c <= many; c++) {
             all.append(' ').append(childOf(s, c, what));
         }
         return all.toString();

@@ -1053,6 +1053,11 @@ public final class EdgesOfActsTest extends Bench {
         be("build(0) is", x.count(11), 1);
         x.pump(1);
         be("pump() of nothing is", x.count(11), 2);
+        rule("0");
+        be("holds", x.tide(), 0);
+        be("tide() that does not break is", x.count(11), 3);
+        be("undo", x.undo(), 2);
+        be("tide", x.count(2), 0);
         x.treat(0);
         x.treat(0);
         x.treat(0);

@@ -318,6 +318,8 @@ public final class EdgesOfKeptTest extends Bench {
         x.again(0);
         shore("00");
         children("7,4-");
+        rule("0");
+        be("spells() that is answered tells none", x.spells(), 0);
         rule("5");
         rowIs(1, 2);
         x.build(0);

@@ -164,6 +164,29 @@ public final class EdgesOfQuestionsTest extends Bench {
         x.tide();
         be("none, what is there is there", x.tides(0), 0);
         rowIs(12, 12 * 999);
+        start("23 (nobody building; by the moats there are then)");
+        shore("00");
+        children("7,9-");
+        x.go(0, 0);
+        rule("9");
+        be("all break", x.tides(5), 5);
+        rowIs(2, 45 + 45);
+        x.moat(0);
+        x.moat(1);
+        rule("m*2");
+        be("the first takes both moats", x.tides(5), 1);
+        rowIs(2, 4 + 4);
+        start("23 (from the walls and moats there are)");
+        shore("09");
+        children(BUILDERS);
+        wall(0, 0, 9);
+        rule("8");
+        // 9, 2 less: 7 breaks; with a moat 9, 1 less, 8, 1 less, 7 breaks.
+        be("one holds", x.tides(2), 1);
+        rowIs(1, 1);
+        x.moat(0);
+        be("two hold", x.tides(3), 1);
+        be("two hold", x.tides(2), 0);
     }
 
     // ---- 24
@@ -190,6 +213,14 @@ public final class EdgesOfQuestionsTest extends Bench {
         be("beside a friend", x.spells(), 1);
         rule("9");
         be("beside a friend", x.spells(), 2);
+        start("24 (with the spades they have)");
+        children("7,4-");
+        x.go(0, 0);
+        x.spade(0);
+        rule("6");
+        be("6 in one", x.spells(), 1);
+        rule("7");
+        be("7 in two", x.spells(), 2);
         start("24 (all cells)");
         shore("00");
         children("7,2-;7,4-");
@@ -435,6 +466,25 @@ public final class EdgesOfQuestionsTest extends Bench {
         rule("6");
         be("the friend is home", x.crew(1, 1), -2);
         be("where they are stays", x.count(8), 4);
+        start("27 (all other children are home: none of them builds)");
+        shore("0990");
+        children("7,5-;7,5a;7,1-;7,1-");
+        x.go(2, 0);
+        x.go(3, 3);
+        rule("6");
+        be("two far from one another", x.crew(3, 1), -2);
+        be("with those who are there now", x.crew(15, 1), 4);
+        rowIs(0, 3, 0, 3);
+        start("27 (by the walls there are)");
+        shore("00");
+        children(BUILDERS);
+        wall(0, 0, 8);
+        rule("9");
+        be("one at each", x.crew(3, 1), 2);
+        rowIs(0, 1);
+        wall(0, 8, 9);
+        be("one at the other", x.crew(3, 1), 1);
+        rowIs(NONE, 1);
         start("27 (next tide: level by its number)");
         children("7,5-");
         rule("(n>0)*6");
@@ -569,6 +619,13 @@ public final class EdgesOfQuestionsTest extends Bench {
         shore("090");
         be("the first of two", x.post(0, 1), 0);
         rowIs(1000 - 30);
+        shore("909");
+        x.go(0, 1);
+        be("where it is already", x.post(0, 1), 1);
+        rowIs(1000 + 4 - 30);
+        x.spade(0);
+        be("with the spade it has", x.post(0, 1), 1);
+        rowIs(1000 + 6 - 30);
         start("28 (all others as they are)");
         shore("000");
         children("7,4-;7,6a;7,9-");
@@ -616,6 +673,9 @@ public final class EdgesOfQuestionsTest extends Bench {
         rowIs(0);
         be("with a moat nothing is washed by 4", x.moats(1), 100);
         rowIs(1);
+        x.moat(0);
+        be("one that is there is filled", x.moats(0), 99);
+        rowIs(0);
         worn(102);
         be("100", x.moats(0), 100);
         rowIs(0);
@@ -701,6 +761,20 @@ public final class EdgesOfQuestionsTest extends Bench {
         be("one", x.spades(), 10);
         rowIs(128);
         be("who has them stays", x.count(5), 3);
+        start("30 (as many as spades, though undo left more with one)");
+        children("7,4-;7,6-");
+        x.go(0, 0);
+        x.go(1, 0);
+        x.spade(0);
+        x.spade(1);
+        x.spade(0);
+        x.spade(1);
+        x.set(1, 1);
+        x.undo();
+        x.undo();
+        be("two are had of one", x.count(5), 3);
+        be("one should", x.spades(), 4 + 6 + 2);
+        rowIs(1);
     }
 
     private static void spadesLeast() {
@@ -832,6 +906,19 @@ public final class EdgesOfQuestionsTest extends Bench {
         x.tide();
         be("from the tide it is: 1 .. 20", law("n/4=1"), 9 - 20);
         rowIs(9, 20);
+        start("33 (by wind, walls and moats, as tides())");
+        shore("09");
+        children(BUILDERS);
+        wall(0, 0, 9);
+        x.moat(1);
+        x.set(0, 7);
+        rule("0");
+        // 8 by wind and the moat: 9, 2 less, 7 breaks, 3, and all that come then break.
+        be("19 of 20", law("w+m"), 19);
+        rowIs(19, 0);
+        rule("w+m");
+        be("none of 20", law("0"), -19);
+        rowIs(0, 19);
         start("33 (-10000 - p, as rule())");
         x.rain(1, 1, 5);
         String[] bad = {"x", "1+", "(1", "1234", "1<2<3", "(((((1)))))", "1)"};
