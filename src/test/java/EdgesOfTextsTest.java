@@ -715,6 +715,9 @@ public final class EdgesOfTextsTest extends Bench {
         String forty = times("1+", 19) + "11";
         start("6 (40, if it has more and the first 40 could go on or end)");
         be("40 signs", forty.length(), 40);
+        be("40 signs, each of them a thing or what joins them", levelBy("-" + times("1+", 19) + "1"), 18);
+        be("40 signs, the last of them ahead of a thing", levelBy(times("1+", 19) + "-1"), 18);
+        be("40 signs, what is last counts", levelBy("-" + times("1+", 19) + "9"), 26);
         be("40 signs", levelBy(forty), 30);
         String signs = "1+x)(\u0000";
         for (int i = 0; i < signs.length(); i++) {
